@@ -173,12 +173,12 @@ public final class FoldedInHalf {
             case SAME:
                 return strip.a % 2;
             case THIRD:
-                return (int) (strip.bends() % 1000);
+                return (int) (strip.creaseCount() % 1000);
             case CUT:
             case BACK:
                 return (int) (strip.cutOff() % 1000);
             default:
-                return strip.bend(1);
+                return strip.creaseAt(1);
         }
     }
 
@@ -281,17 +281,17 @@ public final class FoldedInHalf {
     // Creases, ways and places.
 
     public long creases(int strip) {
-        return isStrip(strip) ? strips[strip].bends() : refuse(NOBODY);
+        return isStrip(strip) ? strips[strip].creaseCount() : refuse(NOBODY);
     }
 
     public int crease(int strip, long n) {
         if (!isStrip(strip)) {
             return refuse(NOBODY);
         }
-        if (n < 1 || n > strips[strip].bends()) {
+        if (n < 1 || n > strips[strip].creaseCount()) {
             return refuse(BEYOND);
         }
-        return strips[strip].bend(n);
+        return strips[strip].creaseAt(n);
     }
 
     public int way(int strip, long n) {
@@ -523,7 +523,7 @@ public final class FoldedInHalf {
 
     public int judge(int strip, int s, int n) {
         int why = isStrip(strip) ? noFirstElements(s, n) : NOBODY;
-        if (why == FINE && n > strips[strip].bends()) {
+        if (why == FINE && n > strips[strip].creaseCount()) {
             why = BEYOND;
         }
         if (why == FINE && n > MOST_TOLD) {
@@ -533,7 +533,7 @@ public final class FoldedInHalf {
             return refuse(why) + TENS;
         }
         for (int i = 1; i <= n; i++) {
-            if (!shelves[s].tells(i - 1, strips[strip].bend(i))) {
+            if (!shelves[s].tells(i - 1, strips[strip].creaseAt(i))) {
                 return i;
             }
         }
@@ -611,7 +611,7 @@ public final class FoldedInHalf {
         if (why != FINE) {
             return refuse(why);
         }
-        int last = (int) Math.min(MOST_SIDES, strips[strip].bends()) - n + 1;
+        int last = (int) Math.min(MOST_SIDES, strips[strip].creaseCount()) - n + 1;
         int many = 0;
         for (int from = 1; from <= last; from++) {
             if (standsFrom(strips[strip], shelves[s], n, from)) {
@@ -626,7 +626,7 @@ public final class FoldedInHalf {
 
     private static boolean standsFrom(Strip strip, Shelf told, int n, int from) {
         for (int i = 0; i < n; i++) {
-            if (!told.tells(i, strip.bend(from + i))) {
+            if (!told.tells(i, strip.creaseAt(from + i))) {
                 return false;
             }
         }
@@ -893,19 +893,19 @@ public final class FoldedInHalf {
             return ((creaseLetters() >> level) & 1) == 1 ? 1 : -1;
         }
 
-        long bends() {
+        long creaseCount() {
             return (1L << levels) - 1;
         }
 
         long sides() {
-            return bends() + 1;
+            return creaseCount() + 1;
         }
 
         long cutOff() {
             return 0;
         }
 
-        int bend(long n) {
+        int creaseAt(long n) {
             long low = n & -n;
             int letter = (creaseLetters() & low) != 0 ? 1 : 0;
             return (n & (low << 1)) == 0 ? letter : 1 - letter;
@@ -979,7 +979,7 @@ public final class FoldedInHalf {
             super(THIRD, number, a, levels, word);
         }
 
-        long bends() {
+        long creaseCount() {
             long power = 1;
             for (int level = 0; level < levels; level++) {
                 power *= 3;
@@ -987,7 +987,7 @@ public final class FoldedInHalf {
             return power - 1;
         }
 
-        int bend(long n) {
+        int creaseAt(long n) {
             long m = n;
             int level = 0;
             while (level < levels - 1 && m % 3 == 0) {
@@ -1010,7 +1010,7 @@ public final class FoldedInHalf {
         }
 
         void lead(Bug bug, long n) {
-            bug.standAt(n > bends() ? 1 : 0, 0);
+            bug.standAt(n > creaseCount() ? 1 : 0, 0);
             int way = 0;
             int level = levels - 1;
             for (long power = sides() / 3; power > 0 && level >= 0; power /= 3) {
@@ -1049,12 +1049,12 @@ public final class FoldedInHalf {
             return from;
         }
 
-        long bends() {
-            return super.bends() - from;
+        long creaseCount() {
+            return super.creaseCount() - from;
         }
 
-        int bend(long n) {
-            return super.bend(n + from);
+        int creaseAt(long n) {
+            return super.creaseAt(n + from);
         }
 
         int wayBehind(long n) {
@@ -1081,12 +1081,12 @@ public final class FoldedInHalf {
             super(BACK, number, a, levels, word);
         }
 
-        int bend(long n) {
-            return 1 - super.bend(sides() - n);
+        int creaseAt(long n) {
+            return 1 - super.creaseAt(sides() - n);
         }
 
         int wayBehind(long n) {
-            return (super.wayBehind(bends() - n) - super.wayBehind(bends())) & 3;
+            return (super.wayBehind(creaseCount() - n) - super.wayBehind(creaseCount())) & 3;
         }
 
         void lead(Bug bug, long n) {
@@ -1095,7 +1095,7 @@ public final class FoldedInHalf {
             long startY = bug.y;
             super.lead(bug, sides() - n);
             bug.standAt(bug.x - startX, bug.y - startY);
-            bug.turnRound(2 - super.wayBehind(bends()));
+            bug.turnRound(2 - super.wayBehind(creaseCount()));
         }
 
         int lies(StringBuilder bodies, int x) {
@@ -1132,8 +1132,8 @@ public final class FoldedInHalf {
             super(LEFT, number, a, levels, word);
         }
 
-        int bend(long n) {
-            return n % 4 == 0 ? 1 : super.bend(n);
+        int creaseAt(long n) {
+            return n % 4 == 0 ? 1 : super.creaseAt(n);
         }
 
         int wayBehind(long n) {
@@ -1211,9 +1211,9 @@ public final class FoldedInHalf {
         }
 
         /** Whether a told crease may be so: one that is not seen may be either. */
-        boolean tells(int i, int bend) {
+        boolean tells(int i, int crease) {
             int seen = asInt(i);
-            return seen == bend || seen != 0 && seen != 1;
+            return seen == crease || seen != 0 && seen != 1;
         }
     }
 
@@ -1392,7 +1392,7 @@ public final class FoldedInHalf {
                 return;
             }
             if (gone > 0) {
-                way += strip.bend(gone) == 1 ? 1 : 3;
+                way += strip.creaseAt(gone) == 1 ? 1 : 3;
             }
             gone++;
             goOn(way);
